@@ -1,0 +1,572 @@
+import java.util.NoSuchElementException;
+
+/** Promises 10, 18 and 19: the paths of events, what listeners do on their way, and what is kept of it. */
+public final class DispatchTest {
+    private static final Due due = new Due();
+    private static final int BUBBLES = 1;
+    private static final int PREVENTABLE = 2;
+    private static final int COMPOSED = 4;
+    private static final int CAPTURE = 1;
+    private static final int ONCE = 2;
+    private static final int PASSIVE = 4;
+
+    public static void main(String[] args) {
+        courses();
+        wrongArguments();
+        pathThroughSlot();
+        pathOutOfShadow();
+        pathThroughSlotOfSlot();
+        pathFromShadowItself();
+        pathOfLooseTree();
+        pathStaysAsItWas();
+        stop();
+        stopAtTargetInFirstCourse();
+        stopAtOnce();
+        prevent();
+        removeCommand();
+        again();
+        addedDuringTurn();
+        sendCommand();
+        sendStaysInShadow();
+        depthOfSending();
+        throwCommand();
+        takeOut();
+        move();
+        once();
+        mostCalled();
+        mostCalledLeavesOnce();
+        marks();
+        markOfBubbling();
+        markTurnedBack();
+        marksOfSentEvents();
+        callsKept();
+        looks();
+        due.end();
+    }
+
+    /** The latest calls, the oldest of them first, each as listener@node>target/phase. */
+    private static String latest(NodeStage x, int count) {
+        StringBuilder text = new StringBuilder();
+        for (int k = count - 1; k >= 0; k--) {
+            text.append(k == count - 1 ? "" : " ").append(x.call(k, 0)).append('@').append(x.call(k, 1));
+            text.append('>').append(x.call(k, 2)).append('/').append(x.call(k, 3));
+        }
+        return text.toString();
+    }
+
+    /** The calls that a dispatching makes. */
+    private static String callsOf(NodeStage x, int node, int type, int flags) {
+        int before = x.look(2);
+        x.dispatch(node, type, flags);
+        return latest(x, x.look(2) - before);
+    }
+
+    /** The document with 1 in it and 2 in 1. */
+    private static NodeStage chain(int kind) {
+        NodeStage x = new NodeStage();
+        x.make(0, 0);
+        x.make(kind, 0);
+        x.insert(0, 1, -1);
+        x.insert(1, 2, -1);
+        return x;
+    }
+
+    private static void listenEverywhere(NodeStage x, int type, int options) {
+        for (int node = 0; node < x.look(0); node++) {
+            x.listen(node, type, options, 0);
+        }
+    }
+
+    private static void courses() {
+        NodeStage x = chain(0);
+        listenEverywhere(x, 1, 0);
+        listenEverywhere(x, 1, CAPTURE);
+        x.listen(2, 2, 0, 0);
+        due.is("with bubbles", callsOf(x, 2, 1, BUBBLES), "3@0>2/1 4@1>2/1 5@2>2/2 2@2>2/2 1@1>2/3 0@0>2/3");
+        due.is("its type", x.call(0, 4), 1);
+        due.is("without bubbles", callsOf(x, 2, 1, 0), "3@0>2/1 4@1>2/1 5@2>2/2 2@2>2/2");
+        due.is("at the middle", callsOf(x, 1, 1, BUBBLES), "3@0>1/1 4@1>1/2 1@1>1/2 0@0>1/3");
+        due.is("at the document", callsOf(x, 0, 1, BUBBLES), "3@0>0/2 0@0>0/2");
+        due.is("another type", callsOf(x, 2, 2, BUBBLES), "6@2>2/2");
+        due.is("its type", x.call(0, 4), 2);
+        due.is("a type without listeners", callsOf(x, 2, 7, BUBBLES), "");
+        due.is("not prevented", x.dispatch(2, 1, 7), true);
+    }
+
+    private static void wrongArguments() {
+        NodeStage x = chain(2);
+        listenEverywhere(x, 0, 0);
+        for (int node : new int[] {-1, 3, 24, Integer.MIN_VALUE, Integer.MAX_VALUE}) {
+            due.isThrown("dispatch(" + node + ", 0, 0)", x, NoSuchElementException.class, () -> x.dispatch(node, 0, 0));
+            due.isThrown("dispatch(" + node + ", 8, 8)", x, NoSuchElementException.class, () -> x.dispatch(node, 8, 8));
+        }
+        for (int far : new int[] {-1, 8, Integer.MIN_VALUE, Integer.MAX_VALUE}) {
+            due.isThrown("dispatch(2, " + far + ", 0)", x, IllegalArgumentException.class, () -> x.dispatch(2, far, 0));
+            due.isThrown("dispatch(2, 0, " + far + ")", x, IllegalArgumentException.class, () -> x.dispatch(2, 0, far));
+        }
+    }
+
+    /** 1 is a host in the document with the shadow 2, in it 3, in that the slot 4; 5 is 1's child. */
+    private static NodeStage slotted() {
+        NodeStage x = new NodeStage();
+        x.make(0, 0);
+        x.attach(1);
+        x.make(0, 0);
+        x.make(1, 0);
+        x.make(0, 0);
+        x.insert(0, 1, -1);
+        x.insert(2, 3, -1);
+        x.insert(3, 4, -1);
+        x.insert(1, 5, -1);
+        listenEverywhere(x, 1, 0);
+        return x;
+    }
+
+    private static void pathThroughSlot() {
+        NodeStage x = slotted();
+        String whole = "5@5>5/2 4@4>5/3 3@3>5/3 2@2>5/3 1@1>5/3 0@0>5/3";
+        due.is("through the slot", callsOf(x, 5, 1, BUBBLES), whole);
+        due.is("through the slot, composed", callsOf(x, 5, 1, BUBBLES | COMPOSED), whole);
+        due.is("through the slot, no bubbles", callsOf(x, 5, 1, 0), "5@5>5/2");
+        x.remove(4);
+        due.is("without the slot", callsOf(x, 5, 1, BUBBLES), "5@5>5/2 1@1>5/3 0@0>5/3");
+    }
+
+    private static void pathOutOfShadow() {
+        NodeStage x = slotted();
+        due.is("not composed", callsOf(x, 3, 1, BUBBLES), "3@3>3/2 2@2>3/3");
+        due.is("composed", callsOf(x, 3, 1, BUBBLES | COMPOSED), "3@3>3/2 2@2>3/3 1@1>1/2 0@0>1/3");
+        due.is("composed, no bubbles", callsOf(x, 3, 1, COMPOSED), "3@3>3/2 1@1>1/2");
+        x.listen(1, 1, CAPTURE, 1);
+        x.listen(2, 1, CAPTURE, 1);
+        due.is("captured", callsOf(x, 3, 1, COMPOSED), "6@1>1/2 7@2>3/1 3@3>3/2 1@1>1/2");
+    }
+
+    private static void pathThroughSlotOfSlot() {
+        // In the shadow 2 of 1 stands the host 3 with the slot 5 as its child; 3's shadow 4 has the slot 6.
+        NodeStage x = new NodeStage();
+        x.make(0, 0);
+        x.attach(1);
+        x.make(0, 0);
+        x.attach(3);
+        x.make(1, 2);
+        x.make(1, 2);
+        x.make(0, 2);
+        x.insert(0, 1, -1);
+        x.insert(2, 3, -1);
+        x.insert(3, 5, -1);
+        x.insert(4, 6, -1);
+        x.insert(1, 7, -1);
+        listenEverywhere(x, 1, 0);
+        due.is("through both slots", callsOf(x, 7, 1, BUBBLES),
+                "7@7>7/2 5@5>7/3 6@6>7/3 4@4>7/3 3@3>7/3 2@2>7/3 1@1>7/3 0@0>7/3");
+        due.is("from the outer slot", callsOf(x, 5, 1, BUBBLES), "5@5>5/2 6@6>5/3 4@4>5/3 3@3>5/3 2@2>5/3");
+        due.is("from the inner slot, composed", callsOf(x, 6, 1, BUBBLES | COMPOSED),
+                "6@6>6/2 4@4>6/3 3@3>3/2 2@2>3/3 1@1>1/2 0@0>1/3");
+    }
+
+    private static void pathFromShadowItself() {
+        NodeStage x = slotted();
+        due.is("not composed", callsOf(x, 2, 1, BUBBLES), "2@2>2/2");
+        due.is("composed", callsOf(x, 2, 1, BUBBLES | COMPOSED), "2@2>2/2 1@1>1/2 0@0>1/3");
+    }
+
+    private static void pathOfLooseTree() {
+        NodeStage x = slotted();
+        x.remove(1);
+        due.is("its top is the last one", callsOf(x, 5, 1, BUBBLES | COMPOSED),
+                "5@5>5/2 4@4>5/3 3@3>5/3 2@2>5/3 1@1>5/3");
+        due.is("out of its shadow", callsOf(x, 4, 1, BUBBLES | COMPOSED), "4@4>4/2 3@3>4/3 2@2>4/3 1@1>1/2");
+    }
+
+    private static void pathStaysAsItWas() {
+        NodeStage x = slotted();
+        x.command(1, 7, 5);
+        x.command(1, 7, 1);
+        x.command(1, 7, 3);
+        x.listen(5, 1, CAPTURE, 1);
+        due.is("the path that was", callsOf(x, 5, 1, BUBBLES),
+                "6@5>5/2 5@5>5/2 4@4>5/3 3@3>5/3 2@2>5/3 1@1>5/3 0@0>5/3");
+        due.is("the next path", callsOf(x, 5, 1, BUBBLES), "6@5>5/2 5@5>5/2");
+    }
+
+    private static void stop() {
+        NodeStage x = chain(0);
+        x.command(1, 0, 0);
+        listenEverywhere(x, 1, 0);
+        x.listen(1, 1, 0, 1);
+        x.listen(1, 1, 0, 2);
+        due.is("in the second course", callsOf(x, 2, 1, BUBBLES), "2@2>2/2 1@1>2/3 3@1>2/3 4@1>2/3");
+        x.listen(1, 1, CAPTURE, 1);
+        x.listen(1, 1, CAPTURE, 2);
+        x.listen(2, 1, CAPTURE, 0);
+        due.is("in the first course", callsOf(x, 2, 1, BUBBLES), "5@1>2/1 6@1>2/1");
+        due.is("a new event is not stopped", callsOf(x, 0, 1, BUBBLES), "0@0>0/2");
+    }
+
+    private static void stopAtTargetInFirstCourse() {
+        NodeStage x = chain(0);
+        x.command(1, 0, 0);
+        x.listen(2, 1, CAPTURE, 1);
+        x.listen(2, 1, CAPTURE, 2);
+        x.listen(2, 1, 0, 2);
+        due.is("behind it nothing", callsOf(x, 2, 1, BUBBLES), "0@2>2/2 1@2>2/2");
+    }
+
+    private static void stopAtOnce() {
+        NodeStage x = chain(0);
+        x.command(1, 1, 0);
+        x.command(1, 2, 0);
+        listenEverywhere(x, 1, 0);
+        x.listen(1, 1, 0, 1);
+        x.listen(1, 1, 0, 2);
+        due.is("in the second course", callsOf(x, 2, 1, BUBBLES), "2@2>2/2 1@1>2/3 3@1>2/3");
+        due.is("the script goes on", x.dispatch(2, 1, BUBBLES | PREVENTABLE), false);
+        x.listen(1, 1, CAPTURE, 1);
+        x.listen(1, 1, CAPTURE, 2);
+        due.is("in the first course", callsOf(x, 2, 1, BUBBLES), "5@1>2/1");
+    }
+
+    private static void prevent() {
+        NodeStage x = chain(0);
+        x.command(1, 2, 0);
+        x.listen(0, 1, 0, 1);
+        due.is("can be", x.dispatch(2, 1, BUBBLES | PREVENTABLE), false);
+        due.is("can not be", x.dispatch(2, 1, BUBBLES | COMPOSED), true);
+        due.is("is not reached", x.dispatch(2, 1, PREVENTABLE), true);
+        x.listen(0, 2, PASSIVE, 1);
+        due.is("passive", x.dispatch(2, 2, BUBBLES | PREVENTABLE), true);
+        x.listen(1, 2, 0, 1);
+        due.is("prevented before the passive one", x.dispatch(2, 2, BUBBLES | PREVENTABLE), false);
+        due.is("it goes on all the same", x.call(0, 1), 0);
+    }
+
+    private static void removeCommand() {
+        NodeStage x = chain(0);
+        x.command(1, 3, 2);
+        x.command(1, 3, 0);
+        x.command(1, 3, 9);
+        x.command(1, 3, -1);
+        x.listen(2, 1, 0, 1);
+        x.listen(2, 1, 0, 2);
+        x.listen(2, 1, 0, 3);
+        x.listen(2, 1, 0, 4);
+        due.is("itself and one behind it", callsOf(x, 2, 1, 0), "0@2>2/2 1@2>2/2 3@2>2/2");
+        due.is("then", callsOf(x, 2, 1, 0), "1@2>2/2 3@2>2/2");
+        due.is("unlisten(2)", x.unlisten(2), false);
+        due.is("listeners", x.look(1), 4);
+    }
+
+    private static void again() {
+        NodeStage x = chain(0);
+        x.listen(2, 3, CAPTURE | PASSIVE, 2);
+        x.command(1, 4, 0);
+        x.command(1, 4, 1);
+        x.command(1, 4, 7);
+        x.command(1, 4, -1);
+        x.command(2, 2, 0);
+        x.listen(1, 1, 0, 1);
+        x.dispatch(1, 1, 0);
+        due.is("like those that are there", x.look(1), 2);
+        x.unlisten(0);
+        x.dispatch(1, 1, 0);
+        due.is("like a removed one", x.look(1), 3);
+        due.is("its node, type and options", callsOf(x, 2, 3, PREVENTABLE), "2@2>2/2");
+        due.is("passive as that one", x.dispatch(2, 3, PREVENTABLE), true);
+        due.isRefused("its capture and script", x, () -> x.listen(2, 3, CAPTURE, 2), -1);
+        x.make(0, 0);
+        for (int k = 3; k < 40; k++) {
+            x.listen(3, k % 8, k / 8 % 2, k / 16 + 2);
+        }
+        due.is("forty", x.look(1), 40);
+        x.unlisten(2);
+        x.dispatch(1, 1, 0);
+        due.is("no forty-first", x.look(1), 40);
+        due.is("nothing hears type 3 at 2", callsOf(x, 2, 3, 0), "");
+    }
+
+    private static void addedDuringTurn() {
+        // Listener 0 adds one for this turn's node, one for the next course and one for the next entry.
+        NodeStage x = chain(0);
+        x.listen(2, 1, CAPTURE, 2);
+        x.listen(2, 1, 0, 2);
+        x.listen(1, 1, 0, 2);
+        for (int k = 0; k < 3; k++) {
+            x.unlisten(k);
+            x.command(1, 4, k);
+        }
+        x.listen(2, 1, CAPTURE, 1);
+        due.is("added", callsOf(x, 2, 1, BUBBLES), "3@2>2/2 5@2>2/2 6@1>2/3");
+        due.is("next time", callsOf(x, 2, 1, BUBBLES), "3@2>2/2 4@2>2/2 5@2>2/2 6@1>2/3");
+    }
+
+    private static void sendCommand() {
+        NodeStage x = chain(0);
+        x.command(1, 5, 6);
+        x.command(1, 5, 8);
+        x.command(1, 5, -1);
+        x.command(2, 2, 0);
+        x.listen(0, 6, 0, 2);
+        x.listen(1, 6, 0, 0);
+        x.listen(2, 6, 0, 0);
+        x.listen(1, 1, 0, 1);
+        x.listen(0, 1, 0, 0);
+        due.is("sent at the current node, then goes on", callsOf(x, 2, 1, BUBBLES), "3@1>2/3 1@1>1/2 0@0>1/3 4@0>2/3");
+        due.is("type of the outer event", x.call(0, 4), 1);
+        due.is("type of the sent event", x.call(1, 4), 6);
+        due.is("the sent one is prevented, not this one", x.dispatch(2, 1, BUBBLES | PREVENTABLE), true);
+        NodeStage y = chain(0);
+        y.command(1, 5, 2);
+        y.command(2, 1, 0);
+        y.listen(1, 1, 0, 1);
+        y.listen(1, 2, 0, 2);
+        y.listen(1, 1, 0, 3);
+        due.is("a stop of the sent one is its own", callsOf(y, 1, 1, BUBBLES), "0@1>1/2 1@1>1/2 2@1>1/2");
+    }
+
+    private static void sendStaysInShadow() {
+        NodeStage x = slotted();
+        x.command(1, 5, 2);
+        x.listen(3, 3, 0, 1);
+        listenEverywhere(x, 2, 0);
+        due.is("not composed", callsOf(x, 3, 3, BUBBLES | COMPOSED), "6@3>3/2 10@3>3/2 9@2>3/3");
+    }
+
+    private static void depthOfSending() {
+        NodeStage x = chain(0);
+        x.command(1, 5, 1);
+        x.command(1, 5, 2);
+        x.listen(1, 1, 0, 1);
+        x.listen(1, 2, 0, 2);
+        due.is("four deep, also for the last ones", callsOf(x, 1, 1, 0),
+                "0@1>1/2 0@1>1/2 0@1>1/2 0@1>1/2 1@1>1/2 1@1>1/2 1@1>1/2");
+        due.is("again", callsOf(x, 1, 1, 0), "0@1>1/2 0@1>1/2 0@1>1/2 0@1>1/2 1@1>1/2 1@1>1/2 1@1>1/2");
+    }
+
+    private static void throwCommand() {
+        NodeStage x = chain(0);
+        x.command(1, 6, 0);
+        x.command(1, 2, 0);
+        x.command(1, 1, 0);
+        x.listen(2, 1, 0, 1);
+        x.listen(2, 1, 0, 2);
+        x.listen(1, 1, 0, 1);
+        due.is("the script ends, nothing else does", callsOf(x, 2, 1, BUBBLES), "0@2>2/2 1@2>2/2 2@1>2/3");
+        due.is("errors", x.look(3), 2);
+        due.is("not prevented", x.dispatch(2, 1, BUBBLES | PREVENTABLE), true);
+        due.is("errors", x.look(3), 4);
+    }
+
+    private static void takeOut() {
+        NodeStage x = chain(0);
+        x.command(1, 7, 2);
+        x.command(1, 7, 2);
+        x.command(1, 7, 0);
+        x.command(1, 7, -1);
+        x.command(1, 7, 3);
+        x.listen(2, 1, 0, 1);
+        x.listen(0, 1, 0, 0);
+        due.is("it goes on", callsOf(x, 2, 1, BUBBLES), "0@2>2/2 1@0>2/3");
+        due.is("parent of 2", x.node(2, 1), -1);
+        due.is("children of 1", x.node(1, 5), 0);
+        due.is("parent of 1", x.node(1, 1), 0);
+    }
+
+    private static void move() {
+        NodeStage x = slotted();
+        x.make(0, 0);
+        x.insert(5, 6, -1);
+        x.make(0, 0);
+        x.insert(5, 7, -1);
+        x.command(1, 8, 6);
+        x.command(1, 8, 5);
+        x.command(1, 8, 1);
+        x.command(1, 8, 2);
+        x.command(1, 8, 3);
+        x.listen(5, 4, 0, 1);
+        x.dispatch(5, 4, 0);
+        due.is("children of 5", x.child(5, 0) * 100 + x.child(5, 1) * 10 + x.child(5, 2), 763);
+        due.is("the parent stays", x.node(5, 1), 1);
+        due.is("the shadow's children", x.node(2, 5), 0);
+        x.command(2, 8, 0);
+        x.command(2, 8, -1);
+        x.command(2, 8, 24);
+        x.command(2, 8, 6);
+        x.listen(2, 4, 0, 2);
+        x.dispatch(2, 4, 0);
+        due.is("children of the shadow", x.node(2, 5), 1);
+        due.is("moved into the shadow", x.child(2, 0), 6);
+    }
+
+    private static void once() {
+        NodeStage x = chain(0);
+        x.command(1, 5, 1);
+        x.listen(2, 1, ONCE, 1);
+        x.listen(1, 1, ONCE | CAPTURE, 0);
+        x.listen(2, 1, 0, 0);
+        due.is("removed before its script", callsOf(x, 2, 1, BUBBLES), "1@1>2/1 0@2>2/2 2@2>2/2 2@2>2/2");
+        due.is("not a second time", callsOf(x, 2, 1, BUBBLES), "2@2>2/2");
+        due.is("unlisten(0)", x.unlisten(0), false);
+        due.is("unlisten(1)", x.unlisten(1), false);
+    }
+
+    private static void mostCalled() {
+        // Each of the five listeners sends four times, so far more than 120 would be called.
+        NodeStage x = chain(0);
+        for (int script = 0; script < 5; script++) {
+            for (int k = 0; k < 4; k++) {
+                x.command(script, 5, 1);
+            }
+            x.listen(2, 1, 0, script);
+        }
+        x.dispatch(2, 1, 0);
+        due.is("calls of the first", x.look(2), 120);
+        x.dispatch(2, 1, 0);
+        due.is("calls of both", x.look(2), 240);
+        x.listen(2, 2, 0, 7);
+        due.is("a call of its own has its own number", callsOf(x, 2, 2, 0), "5@2>2/2");
+    }
+
+    private static void mostCalledLeavesOnce() {
+        NodeStage x = chain(2);
+        for (int script = 0; script < 5; script++) {
+            for (int k = 0; k < 5; k++) {
+                x.command(script, 5, 1);
+            }
+            x.listen(2, 1, 0, script);
+        }
+        x.listen(2, 3, CAPTURE, 0);
+        x.listen(2, 3, ONCE, 7);
+        x.dispatch(2, 3, 0);
+        due.is("the sent events use the number up", x.look(2), 120);
+        due.is("what is passed over is not removed", x.unlisten(6), true);
+        x.command(6, 5, 1);
+        x.command(6, 5, 0);
+        x.command(6, 6, 0);
+        x.listen(2, 4, 0, 6);
+        x.dispatch(2, 4, 0);
+        due.is("used up again", x.look(2), 240);
+        due.is("events without listeners turn marks", x.node(2, 6), 1);
+        due.is("the script went on to its end", x.look(3), 1);
+    }
+
+    private static void marks() {
+        NodeStage x = chain(2);
+        due.is("at first", x.node(2, 6), 0);
+        due.is("dispatch(2, 0, 0)", x.dispatch(2, 0, 0), true);
+        due.is("turned on", x.node(2, 6), 1);
+        x.dispatch(2, 0, BUBBLES);
+        due.is("turned off", x.node(2, 6), 0);
+        for (int type = 1; type < 8; type++) {
+            x.dispatch(2, type, 7);
+            due.is("not with type " + type, x.node(2, 6), 0);
+        }
+        x.dispatch(1, 0, 7);
+        x.dispatch(0, 0, 7);
+        due.is("not from above", x.node(2, 6), 0);
+        due.is("nothing else has one", x.node(0, 6) + x.node(1, 6), 0);
+    }
+
+    private static void markOfBubbling() {
+        // The check 1 holds the check 2, that holds 3.
+        NodeStage x = new NodeStage();
+        x.make(2, 0);
+        x.make(2, 0);
+        x.make(0, 0);
+        x.insert(1, 2, -1);
+        x.insert(2, 3, -1);
+        x.dispatch(3, 0, 0);
+        due.is("without bubbles", x.node(1, 6) * 10 + x.node(2, 6), 0);
+        x.dispatch(3, 0, BUBBLES);
+        due.is("the first of the path", x.node(1, 6) * 10 + x.node(2, 6), 1);
+        x.dispatch(1, 0, BUBBLES);
+        due.is("the target", x.node(1, 6) * 10 + x.node(2, 6), 11);
+        // A check in a shadow, on the path through its slot.
+        NodeStage y = new NodeStage();
+        y.make(0, 0);
+        y.attach(1);
+        y.make(2, 0);
+        y.make(1, 0);
+        y.make(0, 0);
+        y.insert(2, 3, -1);
+        y.insert(3, 4, -1);
+        y.insert(1, 5, -1);
+        y.dispatch(5, 0, BUBBLES);
+        due.is("by way of the slot", y.node(3, 6), 1);
+    }
+
+    private static void markTurnedBack() {
+        NodeStage x = chain(2);
+        x.command(1, 2, 0);
+        x.listen(0, 0, 0, 1);
+        due.is("prevented", x.dispatch(2, 0, BUBBLES | PREVENTABLE), false);
+        due.is("turned back to off", x.node(2, 6), 0);
+        x.dispatch(2, 0, BUBBLES);
+        due.is("cannot be prevented", x.node(2, 6), 1);
+        x.dispatch(2, 0, BUBBLES | PREVENTABLE);
+        due.is("turned back to on", x.node(2, 6), 1);
+        // A listener takes the check out: its mark is turned back all the same.
+        x.command(1, 7, 2);
+        x.dispatch(2, 0, BUBBLES | PREVENTABLE);
+        due.is("turned back, taken out", x.node(2, 6), 1);
+        due.is("taken out", x.node(2, 1), -1);
+    }
+
+    private static void marksOfSentEvents() {
+        NodeStage x = chain(2);
+        x.command(1, 5, 0);
+        x.listen(2, 1, 0, 1);
+        x.dispatch(2, 1, 0);
+        due.is("a sent event of type 0", x.node(2, 6), 1);
+        x.command(2, 5, 0);
+        x.listen(2, 0, 0, 2);
+        x.dispatch(2, 0, 0);
+        due.is("turned four times", x.node(2, 6), 1);
+    }
+
+    private static void callsKept() {
+        NodeStage x = chain(0);
+        x.listen(1, 1, CAPTURE, 0);
+        x.listen(2, 2, 0, 0);
+        due.is("none yet", x.call(0, 0), -1);
+        x.dispatch(2, 1, 0);
+        due.is("the first", x.call(0, 0) * 10000 + x.call(0, 1) * 1000 + x.call(0, 2) * 100 + x.call(0, 3) * 10
+                + x.call(0, 4), 1211);
+        due.is("not so many", x.call(1, 0), -1);
+        for (int k = 0; k < 40; k++) {
+            x.dispatch(2, k % 3 == 0 ? 1 : 2, 0);
+            for (int back = 0; back < 32; back++) {
+                boolean isThere = back <= k + 1;
+                boolean isFirst = back > k || (k - back) % 3 == 0;
+                int want = !isThere ? -1 : isFirst ? 0 : 1;
+                due.is("call(" + back + ", 0) after " + k, x.call(back, 0), want);
+                due.is("call(" + back + ", 4) after " + k, x.call(back, 4), !isThere ? -1 : want + 1);
+            }
+        }
+        int[][] wrong = {{-1, 0}, {32, 0}, {0, -1}, {0, 5}, {Integer.MIN_VALUE, 0}, {Integer.MAX_VALUE, 0},
+            {0, Integer.MIN_VALUE}, {0, Integer.MAX_VALUE}, {32, 5}};
+        for (int[] w : wrong) {
+            due.is("call(" + w[0] + ", " + w[1] + ")", x.call(w[0], w[1]), -1);
+        }
+    }
+
+    private static void looks() {
+        NodeStage x = chain(0);
+        x.attach(1);
+        x.command(1, 6, 0);
+        x.listen(0, 4, 0, 1);
+        x.listen(0, 4, 1, 0);
+        x.box(1, 0, 0, 10, 10);
+        x.pointer(5, 5, true);
+        int[] looks = {4, 2, 2, 1, 1, 1};
+        for (int what = 0; what < looks.length; what++) {
+            due.is("look(" + what + ")", x.look(what), looks[what]);
+        }
+        for (int what : new int[] {-1, 6, Integer.MIN_VALUE, Integer.MAX_VALUE}) {
+            due.is("look(" + what + ")", x.look(what), -1);
+        }
+        x.pointer(50, 50, true);
+        due.is("over nothing", x.look(4), -1);
+        due.is("still pressed", x.look(5), 1);
+    }
+}
