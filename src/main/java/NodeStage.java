@@ -581,12 +581,12 @@ public final class NodeStage {
             }
         }
 
-        /** The next one in tree order of what is below the top, or null. */
-        Node nextBelow(Node top) {
+        /** The next one in tree order below the same root, or null. */
+        Node nextInTreeOrder() {
             if (first != null) {
                 return first;
             }
-            for (Node n = this; n != null && n != top; n = n.parent) {
+            for (Node n = this; n != null; n = n.parent) {
                 if (n.next != null) {
                     return n.next;
                 }
@@ -610,13 +610,12 @@ public final class NodeStage {
         }
 
         Node assignedSlot() {
-            Node tree = parent != null ? parent.shadow : null;
-            Node slot = tree;
+            Node slot = parent != null ? parent.shadow : null;
             for (int steps = 0; slot != null && steps < MOST_NODES; steps++) {
                 if (slot.kind == SLOT && slot.name == name) {
                     return slot;
                 }
-                slot = slot.nextBelow(tree);
+                slot = slot.nextInTreeOrder();
             }
             return null;
         }

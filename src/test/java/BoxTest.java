@@ -249,6 +249,10 @@ public final class BoxTest {
         due.is("what stands behind the host", x.hit(5, 5), 5);
         x.remove(5);
         due.is("the host's child", x.hit(5, 5), 4);
+        x.box(4, 50, 0, 10, 10);
+        due.is("what is below the shadow, beside the child", x.hit(5, 5), 3);
+        due.is("the child beside it", x.hit(55, 5), 4);
+        x.box(4, 0, 0, 10, 10);
         x.remove(4);
         due.is("what is below the shadow", x.hit(5, 5), 3);
         x.insert(3, 4, -1);

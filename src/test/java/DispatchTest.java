@@ -522,6 +522,20 @@ public final class DispatchTest {
         x.listen(2, 0, 0, 2);
         x.dispatch(2, 0, 0);
         due.is("turned four times", x.node(2, 6), 1);
+        NodeStage y = chain(2);
+        y.command(1, 5, 0);
+        y.command(2, 2, 0);
+        y.listen(2, 1, 0, 1);
+        y.listen(0, 0, 0, 2);
+        y.dispatch(2, 1, 0);
+        due.is("a sent event can be prevented", y.node(2, 6), 0);
+        // The outer event turns the mark on, the sent one off, and only the outer one is prevented.
+        NodeStage z = chain(2);
+        z.command(1, 5, 0);
+        z.command(1, 2, 0);
+        z.listen(2, 0, ONCE, 1);
+        due.is("the outer one is prevented", z.dispatch(2, 0, BUBBLES | PREVENTABLE), false);
+        due.is("what it turned is turned once more", z.node(2, 6), 1);
     }
 
     private static void callsKept() {
