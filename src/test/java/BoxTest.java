@@ -1,38 +1,17 @@
-import java.util.NoSuchElementException;
-
 /** Promises 11 to 14: boxes, where they are, and what is hit at a point. */
 public final class BoxTest {
     private static final Due due = new Due();
-    private static final double INF = Double.POSITIVE_INFINITY;
-    private static final double NAN = Double.NaN;
 
     public static void main(String[] args) {
         box();
-        boxAtTheEdges();
-        boxRefused();
         boxInPlaceOfAnother();
         zoom();
-        zoomRefused();
         place();
         placeThroughHosts();
         placeIsRoundedFromOutside();
-        placeThrown();
-        hitEdges();
         hitLayers();
         hitShadowOrder();
-        hitOnlyBelowDocument();
-        hitAtNoPoint();
         due.end();
-    }
-
-    /** The document with 1 in it, 2 in 1 and so on. */
-    private static NodeStage chain(int count) {
-        NodeStage x = new NodeStage();
-        for (int k = 1; k <= count; k++) {
-            x.make(0, 0);
-            x.insert(k - 1, k, -1);
-        }
-        return x;
     }
 
     private static String placesOf(NodeStage x, int node) {
@@ -40,7 +19,7 @@ public final class BoxTest {
     }
 
     private static void box() {
-        NodeStage x = chain(2);
+        NodeStage x = Scene.chain(2);
         x.make(1, 0);
         x.make(2, 0);
         x.box(1, 1.5, -2.25, 3, 4);
@@ -53,41 +32,8 @@ public final class BoxTest {
         }
     }
 
-    private static void boxAtTheEdges() {
-        NodeStage x = chain(1);
-        x.box(1, -1000, 1000, 1000, 1000);
-        due.is("the farthest", placesOf(x, 1), "-1000.0 1000.0 1.0");
-        x.box(1, 1000, -1000, Double.MIN_VALUE, Double.MIN_VALUE);
-        due.is("the smallest", placesOf(x, 1), "1000.0 -1000.0 1.0");
-        x.box(1, -0.0, -0.0, 1, 1);
-        due.is("0 + -0.0 is 0.0", placesOf(x, 1), "0.0 0.0 1.0");
-    }
-
-    private static void boxRefused() {
-        NodeStage x = chain(1);
-        x.attach(1);
-        x.box(1, 5, 5, 10, 10);
-        x.zoom(1, 2, 3);
-        for (int node : new int[] {0, 2, 3, -1, 24, Integer.MIN_VALUE, Integer.MAX_VALUE}) {
-            due.isThrown("box(" + node + ", 1, 1, 1, 1)", x, IllegalArgumentException.class,
-                    () -> x.box(node, 1, 1, 1, 1));
-        }
-        double above = Math.nextUp(1000.0);
-        for (double far : new double[] {above, -above, 1e300, INF, -INF, NAN}) {
-            due.isThrown("x " + far, x, IllegalArgumentException.class, () -> x.box(1, far, 1, 1, 1));
-            due.isThrown("y " + far, x, IllegalArgumentException.class, () -> x.box(1, 1, far, 1, 1));
-            due.isThrown("width " + far, x, IllegalArgumentException.class, () -> x.box(1, 1, 1, far, 1));
-            due.isThrown("height " + far, x, IllegalArgumentException.class, () -> x.box(1, 1, 1, 1, far));
-        }
-        for (double low : new double[] {0.0, -0.0, -1, -1000}) {
-            due.isThrown("width " + low, x, IllegalArgumentException.class, () -> x.box(1, 1, 1, low, 1));
-            due.isThrown("height " + low, x, IllegalArgumentException.class, () -> x.box(1, 1, 1, 1, low));
-        }
-        due.is("the box stays", placesOf(x, 1), "5.0 5.0 2.0");
-    }
-
     private static void boxInPlaceOfAnother() {
-        NodeStage x = chain(1);
+        NodeStage x = Scene.chain(1);
         x.make(0, 0);
         x.insert(0, 2, -1);
         x.box(1, 0, 0, 10, 10);
@@ -103,7 +49,7 @@ public final class BoxTest {
     }
 
     private static void zoom() {
-        NodeStage x = chain(2);
+        NodeStage x = Scene.chain(2);
         x.box(1, 10, 20, 8, 8);
         x.box(2, 1, 2, 8, 8);
         due.is("zoom(1, 4, 0)", x.zoom(1, 4, 0), true);
@@ -112,30 +58,10 @@ public final class BoxTest {
         due.is("the smallest scale", placesOf(x, 1) + " " + placesOf(x, 2), "10.0 20.0 0.125 10.125 20.25 0.125");
         due.is("zoom(2, 2, 0)", x.zoom(2, 2, 0), true);
         due.is("both scales", placesOf(x, 2), "10.125 20.25 0.25");
-        due.is("any layer", x.zoom(2, 2, Integer.MIN_VALUE) && x.zoom(2, 2, Integer.MAX_VALUE), true);
-    }
-
-    private static void zoomRefused() {
-        NodeStage x = chain(3);
-        x.attach(1);
-        x.box(1, 0, 0, 20, 20);
-        x.box(3, 0, 0, 10, 10);
-        x.zoom(1, 2, 5);
-        due.is("by layer", x.hit(1, 1), 1);
-        double low = Math.nextDown(0.125);
-        double high = Math.nextUp(4.0);
-        for (double scale : new double[] {low, high, 0, -1, INF, -INF, NAN}) {
-            due.isRefused("zoom(1, " + scale + ", -9)", x, () -> x.zoom(1, scale, -9), false);
-        }
-        for (int node : new int[] {0, 2, 4, 5, -1, 24, Integer.MIN_VALUE, Integer.MAX_VALUE}) {
-            due.isRefused("zoom(" + node + ", 1, 1)", x, () -> x.zoom(node, 1, 1), false);
-        }
-        due.is("the layer stays", x.hit(1, 1), 1);
-        due.is("the scale stays", placesOf(x, 1), "0.0 0.0 2.0");
     }
 
     private static void place() {
-        NodeStage x = chain(4);
+        NodeStage x = Scene.chain(4);
         x.box(1, 1, 2, 10, 10);
         x.box(4, 10, 20, 10, 10);
         due.is("relative to the nearest with a box", placesOf(x, 4), "11.0 22.0 1.0");
@@ -151,7 +77,7 @@ public final class BoxTest {
 
     private static void placeThroughHosts() {
         // 1 is a host with the shadow 2 with the slot 3; 4 is 1's child and assigned to 3.
-        NodeStage x = chain(1);
+        NodeStage x = Scene.chain(1);
         x.attach(1);
         x.make(1, 0);
         x.make(0, 0);
@@ -166,7 +92,7 @@ public final class BoxTest {
     }
 
     private static void placeIsRoundedFromOutside() {
-        NodeStage x = chain(3);
+        NodeStage x = Scene.chain(3);
         double[] at = {0.1, 0.7, 0.3};
         double[] scales = {0.3, 1.7, 3.3};
         double left = 0;
@@ -179,30 +105,6 @@ public final class BoxTest {
             due.is("left of " + (k + 1), x.place(k + 1, 0), left);
             due.is("top of " + (k + 1), x.place(k + 1, 1), -left);
             due.is("SIZE of " + (k + 1), x.place(k + 1, 2), size);
-        }
-    }
-
-    private static void placeThrown() {
-        NodeStage x = chain(2);
-        x.attach(1);
-        x.box(1, 1, 1, 1, 1);
-        for (int node : new int[] {0, 2, 3, 4, -1, 24, Integer.MIN_VALUE, Integer.MAX_VALUE}) {
-            due.isThrown("place(" + node + ", 0)", x, NoSuchElementException.class, () -> x.place(node, 0));
-            due.isThrown("place(" + node + ", 3)", x, NoSuchElementException.class, () -> x.place(node, 3));
-        }
-        for (int what : new int[] {-1, 3, Integer.MIN_VALUE, Integer.MAX_VALUE}) {
-            due.isThrown("place(1, " + what + ")", x, IllegalArgumentException.class, () -> x.place(1, what));
-        }
-    }
-
-    private static void hitEdges() {
-        NodeStage x = chain(1);
-        x.box(1, 10, 20, 4, 8);
-        x.zoom(1, 0.5, 0);
-        double[][] points = {{10, 20, 1}, {Math.nextDown(12.0), Math.nextDown(24.0), 1}, {12, 20, -1}, {10, 24, -1},
-            {Math.nextDown(10.0), 22, -1}, {11, Math.nextDown(20.0), -1}, {11, 22, 1}, {13, 22, -1}, {11, 25, -1}};
-        for (double[] p : points) {
-            due.is("hit(" + p[0] + ", " + p[1] + ")", x.hit(p[0], p[1]), (int) p[2]);
         }
     }
 
@@ -235,7 +137,7 @@ public final class BoxTest {
 
     private static void hitShadowOrder() {
         // 1 is a host with the shadow 2 with 3 in it; 4 is 1's child, 5 stands behind 1.
-        NodeStage x = chain(1);
+        NodeStage x = Scene.chain(1);
         x.attach(1);
         x.make(0, 0);
         x.make(0, 0);
@@ -265,28 +167,5 @@ public final class BoxTest {
         x.insert(1, 4, -1);
         x.insert(1, 5, 4);
         due.is("the host's last child", x.hit(5, 5), 4);
-    }
-
-    private static void hitOnlyBelowDocument() {
-        NodeStage x = chain(2);
-        x.attach(2);
-        x.make(0, 0);
-        x.box(4, 0, 0, 10, 10);
-        due.is("without a parent", x.hit(5, 5), -1);
-        x.insert(3, 4, -1);
-        due.is("by parents and hosts", x.hit(5, 5), 4);
-        x.remove(1);
-        due.is("taken out with all above", x.hit(5, 5), -1);
-    }
-
-    private static void hitAtNoPoint() {
-        NodeStage x = chain(1);
-        x.box(1, -1000, -1000, 1000, 1000);
-        x.zoom(1, 4, 0);
-        for (double far : new double[] {NAN, INF, -INF, Double.MAX_VALUE}) {
-            due.is("hit(" + far + ", 0)", x.hit(far, 0), -1);
-            due.is("hit(0, " + far + ")", x.hit(0, far), -1);
-        }
-        due.is("hit(0, -0.0)", x.hit(0, -0.0), 1);
     }
 }

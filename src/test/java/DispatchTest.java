@@ -1,5 +1,3 @@
-import java.util.NoSuchElementException;
-
 /** Promises 10, 18 and 19: the paths of events, what listeners do on their way, and what is kept of it. */
 public final class DispatchTest {
     private static final Due due = new Due();
@@ -12,7 +10,6 @@ public final class DispatchTest {
 
     public static void main(String[] args) {
         courses();
-        wrongArguments();
         pathThroughSlot();
         pathOutOfShadow();
         pathThroughSlotOfSlot();
@@ -28,37 +25,14 @@ public final class DispatchTest {
         addedDuringTurn();
         sendCommand();
         sendStaysInShadow();
-        depthOfSending();
         throwCommand();
         takeOut();
         move();
         once();
-        mostCalled();
-        mostCalledLeavesOnce();
-        marks();
-        markOfBubbling();
         markTurnedBack();
         marksOfSentEvents();
-        callsKept();
         looks();
         due.end();
-    }
-
-    /** The latest calls, the oldest of them first, each as listener@node>target/phase. */
-    private static String latest(NodeStage x, int count) {
-        StringBuilder text = new StringBuilder();
-        for (int k = count - 1; k >= 0; k--) {
-            text.append(k == count - 1 ? "" : " ").append(x.call(k, 0)).append('@').append(x.call(k, 1));
-            text.append('>').append(x.call(k, 2)).append('/').append(x.call(k, 3));
-        }
-        return text.toString();
-    }
-
-    /** The calls that a dispatching makes. */
-    private static String callsOf(NodeStage x, int node, int type, int flags) {
-        int before = x.look(2);
-        x.dispatch(node, type, flags);
-        return latest(x, x.look(2) - before);
     }
 
     /** The document with 1 in it and 2 in 1. */
@@ -71,39 +45,20 @@ public final class DispatchTest {
         return x;
     }
 
-    private static void listenEverywhere(NodeStage x, int type, int options) {
-        for (int node = 0; node < x.look(0); node++) {
-            x.listen(node, type, options, 0);
-        }
-    }
-
     private static void courses() {
         NodeStage x = chain(0);
-        listenEverywhere(x, 1, 0);
-        listenEverywhere(x, 1, CAPTURE);
+        Heard.everywhere(x, 1, 0);
+        Heard.everywhere(x, 1, CAPTURE);
         x.listen(2, 2, 0, 0);
-        due.is("with bubbles", callsOf(x, 2, 1, BUBBLES), "3@0>2/1 4@1>2/1 5@2>2/2 2@2>2/2 1@1>2/3 0@0>2/3");
+        due.is("with bubbles", Heard.of(x, 2, 1, BUBBLES), "3@0>2/1 4@1>2/1 5@2>2/2 2@2>2/2 1@1>2/3 0@0>2/3");
         due.is("its type", x.call(0, 4), 1);
-        due.is("without bubbles", callsOf(x, 2, 1, 0), "3@0>2/1 4@1>2/1 5@2>2/2 2@2>2/2");
-        due.is("at the middle", callsOf(x, 1, 1, BUBBLES), "3@0>1/1 4@1>1/2 1@1>1/2 0@0>1/3");
-        due.is("at the document", callsOf(x, 0, 1, BUBBLES), "3@0>0/2 0@0>0/2");
-        due.is("another type", callsOf(x, 2, 2, BUBBLES), "6@2>2/2");
+        due.is("without bubbles", Heard.of(x, 2, 1, 0), "3@0>2/1 4@1>2/1 5@2>2/2 2@2>2/2");
+        due.is("at the middle", Heard.of(x, 1, 1, BUBBLES), "3@0>1/1 4@1>1/2 1@1>1/2 0@0>1/3");
+        due.is("at the document", Heard.of(x, 0, 1, BUBBLES), "3@0>0/2 0@0>0/2");
+        due.is("another type", Heard.of(x, 2, 2, BUBBLES), "6@2>2/2");
         due.is("its type", x.call(0, 4), 2);
-        due.is("a type without listeners", callsOf(x, 2, 7, BUBBLES), "");
+        due.is("a type without listeners", Heard.of(x, 2, 7, BUBBLES), "");
         due.is("not prevented", x.dispatch(2, 1, 7), true);
-    }
-
-    private static void wrongArguments() {
-        NodeStage x = chain(2);
-        listenEverywhere(x, 0, 0);
-        for (int node : new int[] {-1, 3, 24, Integer.MIN_VALUE, Integer.MAX_VALUE}) {
-            due.isThrown("dispatch(" + node + ", 0, 0)", x, NoSuchElementException.class, () -> x.dispatch(node, 0, 0));
-            due.isThrown("dispatch(" + node + ", 8, 8)", x, NoSuchElementException.class, () -> x.dispatch(node, 8, 8));
-        }
-        for (int far : new int[] {-1, 8, Integer.MIN_VALUE, Integer.MAX_VALUE}) {
-            due.isThrown("dispatch(2, " + far + ", 0)", x, IllegalArgumentException.class, () -> x.dispatch(2, far, 0));
-            due.isThrown("dispatch(2, 0, " + far + ")", x, IllegalArgumentException.class, () -> x.dispatch(2, 0, far));
-        }
     }
 
     /** 1 is a host in the document with the shadow 2, in it 3, in that the slot 4; 5 is 1's child. */
@@ -118,28 +73,28 @@ public final class DispatchTest {
         x.insert(2, 3, -1);
         x.insert(3, 4, -1);
         x.insert(1, 5, -1);
-        listenEverywhere(x, 1, 0);
+        Heard.everywhere(x, 1, 0);
         return x;
     }
 
     private static void pathThroughSlot() {
         NodeStage x = slotted();
         String whole = "5@5>5/2 4@4>5/3 3@3>5/3 2@2>5/3 1@1>5/3 0@0>5/3";
-        due.is("through the slot", callsOf(x, 5, 1, BUBBLES), whole);
-        due.is("through the slot, composed", callsOf(x, 5, 1, BUBBLES | COMPOSED), whole);
-        due.is("through the slot, no bubbles", callsOf(x, 5, 1, 0), "5@5>5/2");
+        due.is("through the slot", Heard.of(x, 5, 1, BUBBLES), whole);
+        due.is("through the slot, composed", Heard.of(x, 5, 1, BUBBLES | COMPOSED), whole);
+        due.is("through the slot, no bubbles", Heard.of(x, 5, 1, 0), "5@5>5/2");
         x.remove(4);
-        due.is("without the slot", callsOf(x, 5, 1, BUBBLES), "5@5>5/2 1@1>5/3 0@0>5/3");
+        due.is("without the slot", Heard.of(x, 5, 1, BUBBLES), "5@5>5/2 1@1>5/3 0@0>5/3");
     }
 
     private static void pathOutOfShadow() {
         NodeStage x = slotted();
-        due.is("not composed", callsOf(x, 3, 1, BUBBLES), "3@3>3/2 2@2>3/3");
-        due.is("composed", callsOf(x, 3, 1, BUBBLES | COMPOSED), "3@3>3/2 2@2>3/3 1@1>1/2 0@0>1/3");
-        due.is("composed, no bubbles", callsOf(x, 3, 1, COMPOSED), "3@3>3/2 1@1>1/2");
+        due.is("not composed", Heard.of(x, 3, 1, BUBBLES), "3@3>3/2 2@2>3/3");
+        due.is("composed", Heard.of(x, 3, 1, BUBBLES | COMPOSED), "3@3>3/2 2@2>3/3 1@1>1/2 0@0>1/3");
+        due.is("composed, no bubbles", Heard.of(x, 3, 1, COMPOSED), "3@3>3/2 1@1>1/2");
         x.listen(1, 1, CAPTURE, 1);
         x.listen(2, 1, CAPTURE, 1);
-        due.is("captured", callsOf(x, 3, 1, COMPOSED), "6@1>1/2 7@2>3/1 3@3>3/2 1@1>1/2");
+        due.is("captured", Heard.of(x, 3, 1, COMPOSED), "6@1>1/2 7@2>3/1 3@3>3/2 1@1>1/2");
     }
 
     private static void pathThroughSlotOfSlot() {
@@ -157,26 +112,26 @@ public final class DispatchTest {
         x.insert(3, 5, -1);
         x.insert(4, 6, -1);
         x.insert(1, 7, -1);
-        listenEverywhere(x, 1, 0);
-        due.is("through both slots", callsOf(x, 7, 1, BUBBLES),
+        Heard.everywhere(x, 1, 0);
+        due.is("through both slots", Heard.of(x, 7, 1, BUBBLES),
                 "7@7>7/2 5@5>7/3 6@6>7/3 4@4>7/3 3@3>7/3 2@2>7/3 1@1>7/3 0@0>7/3");
-        due.is("from the outer slot", callsOf(x, 5, 1, BUBBLES), "5@5>5/2 6@6>5/3 4@4>5/3 3@3>5/3 2@2>5/3");
-        due.is("from the inner slot, composed", callsOf(x, 6, 1, BUBBLES | COMPOSED),
+        due.is("from the outer slot", Heard.of(x, 5, 1, BUBBLES), "5@5>5/2 6@6>5/3 4@4>5/3 3@3>5/3 2@2>5/3");
+        due.is("from the inner slot, composed", Heard.of(x, 6, 1, BUBBLES | COMPOSED),
                 "6@6>6/2 4@4>6/3 3@3>3/2 2@2>3/3 1@1>1/2 0@0>1/3");
     }
 
     private static void pathFromShadowItself() {
         NodeStage x = slotted();
-        due.is("not composed", callsOf(x, 2, 1, BUBBLES), "2@2>2/2");
-        due.is("composed", callsOf(x, 2, 1, BUBBLES | COMPOSED), "2@2>2/2 1@1>1/2 0@0>1/3");
+        due.is("not composed", Heard.of(x, 2, 1, BUBBLES), "2@2>2/2");
+        due.is("composed", Heard.of(x, 2, 1, BUBBLES | COMPOSED), "2@2>2/2 1@1>1/2 0@0>1/3");
     }
 
     private static void pathOfLooseTree() {
         NodeStage x = slotted();
         x.remove(1);
-        due.is("its top is the last one", callsOf(x, 5, 1, BUBBLES | COMPOSED),
+        due.is("its top is the last one", Heard.of(x, 5, 1, BUBBLES | COMPOSED),
                 "5@5>5/2 4@4>5/3 3@3>5/3 2@2>5/3 1@1>5/3");
-        due.is("out of its shadow", callsOf(x, 4, 1, BUBBLES | COMPOSED), "4@4>4/2 3@3>4/3 2@2>4/3 1@1>1/2");
+        due.is("out of its shadow", Heard.of(x, 4, 1, BUBBLES | COMPOSED), "4@4>4/2 3@3>4/3 2@2>4/3 1@1>1/2");
     }
 
     private static void pathStaysAsItWas() {
@@ -185,23 +140,23 @@ public final class DispatchTest {
         x.command(1, 7, 1);
         x.command(1, 7, 3);
         x.listen(5, 1, CAPTURE, 1);
-        due.is("the path that was", callsOf(x, 5, 1, BUBBLES),
+        due.is("the path that was", Heard.of(x, 5, 1, BUBBLES),
                 "6@5>5/2 5@5>5/2 4@4>5/3 3@3>5/3 2@2>5/3 1@1>5/3 0@0>5/3");
-        due.is("the next path", callsOf(x, 5, 1, BUBBLES), "6@5>5/2 5@5>5/2");
+        due.is("the next path", Heard.of(x, 5, 1, BUBBLES), "6@5>5/2 5@5>5/2");
     }
 
     private static void stop() {
         NodeStage x = chain(0);
         x.command(1, 0, 0);
-        listenEverywhere(x, 1, 0);
+        Heard.everywhere(x, 1, 0);
         x.listen(1, 1, 0, 1);
         x.listen(1, 1, 0, 2);
-        due.is("in the second course", callsOf(x, 2, 1, BUBBLES), "2@2>2/2 1@1>2/3 3@1>2/3 4@1>2/3");
+        due.is("in the second course", Heard.of(x, 2, 1, BUBBLES), "2@2>2/2 1@1>2/3 3@1>2/3 4@1>2/3");
         x.listen(1, 1, CAPTURE, 1);
         x.listen(1, 1, CAPTURE, 2);
         x.listen(2, 1, CAPTURE, 0);
-        due.is("in the first course", callsOf(x, 2, 1, BUBBLES), "5@1>2/1 6@1>2/1");
-        due.is("a new event is not stopped", callsOf(x, 0, 1, BUBBLES), "0@0>0/2");
+        due.is("in the first course", Heard.of(x, 2, 1, BUBBLES), "5@1>2/1 6@1>2/1");
+        due.is("a new event is not stopped", Heard.of(x, 0, 1, BUBBLES), "0@0>0/2");
     }
 
     private static void stopAtTargetInFirstCourse() {
@@ -210,21 +165,21 @@ public final class DispatchTest {
         x.listen(2, 1, CAPTURE, 1);
         x.listen(2, 1, CAPTURE, 2);
         x.listen(2, 1, 0, 2);
-        due.is("behind it nothing", callsOf(x, 2, 1, BUBBLES), "0@2>2/2 1@2>2/2");
+        due.is("behind it nothing", Heard.of(x, 2, 1, BUBBLES), "0@2>2/2 1@2>2/2");
     }
 
     private static void stopAtOnce() {
         NodeStage x = chain(0);
         x.command(1, 1, 0);
         x.command(1, 2, 0);
-        listenEverywhere(x, 1, 0);
+        Heard.everywhere(x, 1, 0);
         x.listen(1, 1, 0, 1);
         x.listen(1, 1, 0, 2);
-        due.is("in the second course", callsOf(x, 2, 1, BUBBLES), "2@2>2/2 1@1>2/3 3@1>2/3");
+        due.is("in the second course", Heard.of(x, 2, 1, BUBBLES), "2@2>2/2 1@1>2/3 3@1>2/3");
         due.is("the script goes on", x.dispatch(2, 1, BUBBLES | PREVENTABLE), false);
         x.listen(1, 1, CAPTURE, 1);
         x.listen(1, 1, CAPTURE, 2);
-        due.is("in the first course", callsOf(x, 2, 1, BUBBLES), "5@1>2/1");
+        due.is("in the first course", Heard.of(x, 2, 1, BUBBLES), "5@1>2/1");
     }
 
     private static void prevent() {
@@ -251,8 +206,8 @@ public final class DispatchTest {
         x.listen(2, 1, 0, 2);
         x.listen(2, 1, 0, 3);
         x.listen(2, 1, 0, 4);
-        due.is("itself and one behind it", callsOf(x, 2, 1, 0), "0@2>2/2 1@2>2/2 3@2>2/2");
-        due.is("then", callsOf(x, 2, 1, 0), "1@2>2/2 3@2>2/2");
+        due.is("itself and one behind it", Heard.of(x, 2, 1, 0), "0@2>2/2 1@2>2/2 3@2>2/2");
+        due.is("then", Heard.of(x, 2, 1, 0), "1@2>2/2 3@2>2/2");
         due.is("unlisten(2)", x.unlisten(2), false);
         due.is("listeners", x.look(1), 4);
     }
@@ -271,9 +226,9 @@ public final class DispatchTest {
         x.unlisten(0);
         x.dispatch(1, 1, 0);
         due.is("like a removed one", x.look(1), 3);
-        due.is("its node, type and options", callsOf(x, 2, 3, PREVENTABLE), "2@2>2/2");
+        due.is("its node, type and options", Heard.of(x, 2, 3, PREVENTABLE), "2@2>2/2");
         due.is("passive as that one", x.dispatch(2, 3, PREVENTABLE), true);
-        due.isRefused("its capture and script", x, () -> x.listen(2, 3, CAPTURE, 2), -1);
+        due.is("its capture and script", x.listen(2, 3, CAPTURE, 2), -1);
         x.make(0, 0);
         for (int k = 3; k < 40; k++) {
             x.listen(3, k % 8, k / 8 % 2, k / 16 + 2);
@@ -282,7 +237,7 @@ public final class DispatchTest {
         x.unlisten(2);
         x.dispatch(1, 1, 0);
         due.is("no forty-first", x.look(1), 40);
-        due.is("nothing hears type 3 at 2", callsOf(x, 2, 3, 0), "");
+        due.is("nothing hears type 3 at 2", Heard.of(x, 2, 3, 0), "");
     }
 
     private static void addedDuringTurn() {
@@ -296,8 +251,8 @@ public final class DispatchTest {
             x.command(1, 4, k);
         }
         x.listen(2, 1, CAPTURE, 1);
-        due.is("added", callsOf(x, 2, 1, BUBBLES), "3@2>2/2 5@2>2/2 6@1>2/3");
-        due.is("next time", callsOf(x, 2, 1, BUBBLES), "3@2>2/2 4@2>2/2 5@2>2/2 6@1>2/3");
+        due.is("added", Heard.of(x, 2, 1, BUBBLES), "3@2>2/2 5@2>2/2 6@1>2/3");
+        due.is("next time", Heard.of(x, 2, 1, BUBBLES), "3@2>2/2 4@2>2/2 5@2>2/2 6@1>2/3");
     }
 
     private static void sendCommand() {
@@ -311,7 +266,7 @@ public final class DispatchTest {
         x.listen(2, 6, 0, 0);
         x.listen(1, 1, 0, 1);
         x.listen(0, 1, 0, 0);
-        due.is("sent at the current node, then goes on", callsOf(x, 2, 1, BUBBLES), "3@1>2/3 1@1>1/2 0@0>1/3 4@0>2/3");
+        due.is("sent at the current node, then goes on", Heard.of(x, 2, 1, BUBBLES), "3@1>2/3 1@1>1/2 0@0>1/3 4@0>2/3");
         due.is("type of the outer event", x.call(0, 4), 1);
         due.is("type of the sent event", x.call(1, 4), 6);
         due.is("the sent one is prevented, not this one", x.dispatch(2, 1, BUBBLES | PREVENTABLE), true);
@@ -321,26 +276,15 @@ public final class DispatchTest {
         y.listen(1, 1, 0, 1);
         y.listen(1, 2, 0, 2);
         y.listen(1, 1, 0, 3);
-        due.is("a stop of the sent one is its own", callsOf(y, 1, 1, BUBBLES), "0@1>1/2 1@1>1/2 2@1>1/2");
+        due.is("a stop of the sent one is its own", Heard.of(y, 1, 1, BUBBLES), "0@1>1/2 1@1>1/2 2@1>1/2");
     }
 
     private static void sendStaysInShadow() {
         NodeStage x = slotted();
         x.command(1, 5, 2);
         x.listen(3, 3, 0, 1);
-        listenEverywhere(x, 2, 0);
-        due.is("not composed", callsOf(x, 3, 3, BUBBLES | COMPOSED), "6@3>3/2 10@3>3/2 9@2>3/3");
-    }
-
-    private static void depthOfSending() {
-        NodeStage x = chain(0);
-        x.command(1, 5, 1);
-        x.command(1, 5, 2);
-        x.listen(1, 1, 0, 1);
-        x.listen(1, 2, 0, 2);
-        due.is("four deep, also for the last ones", callsOf(x, 1, 1, 0),
-                "0@1>1/2 0@1>1/2 0@1>1/2 0@1>1/2 1@1>1/2 1@1>1/2 1@1>1/2");
-        due.is("again", callsOf(x, 1, 1, 0), "0@1>1/2 0@1>1/2 0@1>1/2 0@1>1/2 1@1>1/2 1@1>1/2 1@1>1/2");
+        Heard.everywhere(x, 2, 0);
+        due.is("not composed", Heard.of(x, 3, 3, BUBBLES | COMPOSED), "6@3>3/2 10@3>3/2 9@2>3/3");
     }
 
     private static void throwCommand() {
@@ -351,7 +295,7 @@ public final class DispatchTest {
         x.listen(2, 1, 0, 1);
         x.listen(2, 1, 0, 2);
         x.listen(1, 1, 0, 1);
-        due.is("the script ends, nothing else does", callsOf(x, 2, 1, BUBBLES), "0@2>2/2 1@2>2/2 2@1>2/3");
+        due.is("the script ends, nothing else does", Heard.of(x, 2, 1, BUBBLES), "0@2>2/2 1@2>2/2 2@1>2/3");
         due.is("errors", x.look(3), 2);
         due.is("not prevented", x.dispatch(2, 1, BUBBLES | PREVENTABLE), true);
         due.is("errors", x.look(3), 4);
@@ -366,7 +310,7 @@ public final class DispatchTest {
         x.command(1, 7, 3);
         x.listen(2, 1, 0, 1);
         x.listen(0, 1, 0, 0);
-        due.is("it goes on", callsOf(x, 2, 1, BUBBLES), "0@2>2/2 1@0>2/3");
+        due.is("it goes on", Heard.of(x, 2, 1, BUBBLES), "0@2>2/2 1@0>2/3");
         due.is("parent of 2", x.node(2, 1), -1);
         due.is("children of 1", x.node(1, 5), 0);
         due.is("parent of 1", x.node(1, 1), 0);
@@ -404,95 +348,10 @@ public final class DispatchTest {
         x.listen(2, 1, ONCE, 1);
         x.listen(1, 1, ONCE | CAPTURE, 0);
         x.listen(2, 1, 0, 0);
-        due.is("removed before its script", callsOf(x, 2, 1, BUBBLES), "1@1>2/1 0@2>2/2 2@2>2/2 2@2>2/2");
-        due.is("not a second time", callsOf(x, 2, 1, BUBBLES), "2@2>2/2");
+        due.is("removed before its script", Heard.of(x, 2, 1, BUBBLES), "1@1>2/1 0@2>2/2 2@2>2/2 2@2>2/2");
+        due.is("not a second time", Heard.of(x, 2, 1, BUBBLES), "2@2>2/2");
         due.is("unlisten(0)", x.unlisten(0), false);
         due.is("unlisten(1)", x.unlisten(1), false);
-    }
-
-    private static void mostCalled() {
-        // Each of the five listeners sends four times, so far more than 120 would be called.
-        NodeStage x = chain(0);
-        for (int script = 0; script < 5; script++) {
-            for (int k = 0; k < 4; k++) {
-                x.command(script, 5, 1);
-            }
-            x.listen(2, 1, 0, script);
-        }
-        x.dispatch(2, 1, 0);
-        due.is("calls of the first", x.look(2), 120);
-        x.dispatch(2, 1, 0);
-        due.is("calls of both", x.look(2), 240);
-        x.listen(2, 2, 0, 7);
-        due.is("a call of its own has its own number", callsOf(x, 2, 2, 0), "5@2>2/2");
-    }
-
-    private static void mostCalledLeavesOnce() {
-        NodeStage x = chain(2);
-        for (int script = 0; script < 5; script++) {
-            for (int k = 0; k < 5; k++) {
-                x.command(script, 5, 1);
-            }
-            x.listen(2, 1, 0, script);
-        }
-        x.listen(2, 3, CAPTURE, 0);
-        x.listen(2, 3, ONCE, 7);
-        x.dispatch(2, 3, 0);
-        due.is("the sent events use the number up", x.look(2), 120);
-        due.is("what is passed over is not removed", x.unlisten(6), true);
-        x.command(6, 5, 1);
-        x.command(6, 5, 0);
-        x.command(6, 6, 0);
-        x.listen(2, 4, 0, 6);
-        x.dispatch(2, 4, 0);
-        due.is("used up again", x.look(2), 240);
-        due.is("events without listeners turn marks", x.node(2, 6), 1);
-        due.is("the script went on to its end", x.look(3), 1);
-    }
-
-    private static void marks() {
-        NodeStage x = chain(2);
-        due.is("at first", x.node(2, 6), 0);
-        due.is("dispatch(2, 0, 0)", x.dispatch(2, 0, 0), true);
-        due.is("turned on", x.node(2, 6), 1);
-        x.dispatch(2, 0, BUBBLES);
-        due.is("turned off", x.node(2, 6), 0);
-        for (int type = 1; type < 8; type++) {
-            x.dispatch(2, type, 7);
-            due.is("not with type " + type, x.node(2, 6), 0);
-        }
-        x.dispatch(1, 0, 7);
-        x.dispatch(0, 0, 7);
-        due.is("not from above", x.node(2, 6), 0);
-        due.is("nothing else has one", x.node(0, 6) + x.node(1, 6), 0);
-    }
-
-    private static void markOfBubbling() {
-        // The check 1 holds the check 2, that holds 3.
-        NodeStage x = new NodeStage();
-        x.make(2, 0);
-        x.make(2, 0);
-        x.make(0, 0);
-        x.insert(1, 2, -1);
-        x.insert(2, 3, -1);
-        x.dispatch(3, 0, 0);
-        due.is("without bubbles", x.node(1, 6) * 10 + x.node(2, 6), 0);
-        x.dispatch(3, 0, BUBBLES);
-        due.is("the first of the path", x.node(1, 6) * 10 + x.node(2, 6), 1);
-        x.dispatch(1, 0, BUBBLES);
-        due.is("the target", x.node(1, 6) * 10 + x.node(2, 6), 11);
-        // A check in a shadow, on the path through its slot.
-        NodeStage y = new NodeStage();
-        y.make(0, 0);
-        y.attach(1);
-        y.make(2, 0);
-        y.make(1, 0);
-        y.make(0, 0);
-        y.insert(2, 3, -1);
-        y.insert(3, 4, -1);
-        y.insert(1, 5, -1);
-        y.dispatch(5, 0, BUBBLES);
-        due.is("by way of the slot", y.node(3, 6), 1);
     }
 
     private static void markTurnedBack() {
@@ -536,32 +395,6 @@ public final class DispatchTest {
         z.listen(2, 0, ONCE, 1);
         due.is("the outer one is prevented", z.dispatch(2, 0, BUBBLES | PREVENTABLE), false);
         due.is("what it turned is turned once more", z.node(2, 6), 1);
-    }
-
-    private static void callsKept() {
-        NodeStage x = chain(0);
-        x.listen(1, 1, CAPTURE, 0);
-        x.listen(2, 2, 0, 0);
-        due.is("none yet", x.call(0, 0), -1);
-        x.dispatch(2, 1, 0);
-        due.is("the first", x.call(0, 0) * 10000 + x.call(0, 1) * 1000 + x.call(0, 2) * 100 + x.call(0, 3) * 10
-                + x.call(0, 4), 1211);
-        due.is("not so many", x.call(1, 0), -1);
-        for (int k = 0; k < 40; k++) {
-            x.dispatch(2, k % 3 == 0 ? 1 : 2, 0);
-            for (int back = 0; back < 32; back++) {
-                boolean isThere = back <= k + 1;
-                boolean isFirst = back > k || (k - back) % 3 == 0;
-                int want = !isThere ? -1 : isFirst ? 0 : 1;
-                due.is("call(" + back + ", 0) after " + k, x.call(back, 0), want);
-                due.is("call(" + back + ", 4) after " + k, x.call(back, 4), !isThere ? -1 : want + 1);
-            }
-        }
-        int[][] wrong = {{-1, 0}, {32, 0}, {0, -1}, {0, 5}, {Integer.MIN_VALUE, 0}, {Integer.MAX_VALUE, 0},
-            {0, Integer.MIN_VALUE}, {0, Integer.MAX_VALUE}, {32, 5}};
-        for (int[] w : wrong) {
-            due.is("call(" + w[0] + ", " + w[1] + ")", x.call(w[0], w[1]), -1);
-        }
     }
 
     private static void looks() {

@@ -1,7 +1,21 @@
+import java.util.LinkedHashSet;
+import java.util.Set;
+import java.util.function.Supplier;
+
 /** Compares answers with those that are due, prints those that differ and counts them. */
 final class Due {
+    private final Set<String> sentences = new LinkedHashSet<>();
+    private String sentence = "";
     private int asked;
     private int wrong;
+
+    /** The sentence of the document that the answers from here on are about. */
+    void about(String sentence) {
+        this.sentence = sentence;
+        if (!sentences.add(sentence)) {
+            compare("a sentence that is told twice", sentence, "one of its own");
+        }
+    }
 
     void is(String call, long got, long want) {
         compare(call, String.valueOf(got), String.valueOf(want));
@@ -20,41 +34,65 @@ final class Due {
         compare(call, got, want);
     }
 
-    /** The call must throw just that exception and change nothing that can be seen of the stage. */
-    void isThrown(String call, NodeStage stage, Class<? extends RuntimeException> want, Runnable run) {
-        String before = Sight.of(stage);
-        compare(call, thrownBy(run), want.getSimpleName());
-        compare("what is seen after " + call, Sight.of(stage), before);
+    /** The call, on a new stage of that scene, must answer so. */
+    void taken(Supplier<NodeStage> scene, Object want, String name, Object... args) {
+        Call call = new Call(name, args);
+        compare(call.told(), call.on(scene.get()), String.valueOf(want));
     }
 
-    /** The call must answer so and change nothing that can be seen of the stage. */
-    void isRefused(String call, NodeStage stage, java.util.function.Supplier<Object> run, Object want) {
-        String before = Sight.of(stage);
-        compare(call, String.valueOf(run.get()), String.valueOf(want));
-        compare("what is seen after " + call, Sight.of(stage), before);
+    /** The call must answer -1 or false and change nothing. */
+    void refused(Supplier<NodeStage> scene, String name, Object... args) {
+        Call call = new Call(name, args);
+        unchanged(scene, call, call.refusal());
     }
 
-    static String thrownBy(Runnable run) {
-        try {
-            run.run();
-            return "nothing";
-        } catch (RuntimeException e) {
-            return e.getClass().getSimpleName();
+    /** The call must throw just that exception and change nothing. */
+    void thrown(Supplier<NodeStage> scene, Class<? extends RuntimeException> want, String name, Object... args) {
+        unchanged(scene, new Call(name, args), "throws." + want.getSimpleName());
+    }
+
+    /** Both makings must lead to stages that nothing can tell apart. */
+    void alike(String what, Supplier<NodeStage> making, Supplier<NodeStage> other) {
+        String[] got = Sight.of(making).split("\n");
+        String[] want = Sight.of(other).split("\n");
+        for (int row = 0; row < got.length || row < want.length; row++) {
+            String seen = row < got.length ? got[row] : "no more";
+            String due = row < want.length ? want[row] : "no more";
+            if (!seen.equals(due)) {
+                compare(what, seen, due);
+                return;
+            }
         }
+        compare(what, "alike", "alike");
+    }
+
+    /** Values on both sides of a range: the nearest that are not in it, and the farthest. */
+    static int[] outside(int low, int high) {
+        return new int[] {low - 1, high + 1, Integer.MIN_VALUE, Integer.MAX_VALUE};
     }
 
     void end() {
-        System.out.println(wrong == 0 ? asked + " answers are as due" : wrong + " of " + asked + " answers are not as due");
+        String told = sentences.isEmpty() ? "" : ", on " + sentences.size() + " sentences of the document";
+        System.out.println((wrong == 0 ? asked + " answers are as due" : wrong + " of " + asked + " answers are not as due") + told);
         if (wrong != 0 || asked == 0) {
             System.exit(1);
         }
+    }
+
+    private void unchanged(Supplier<NodeStage> scene, Call call, String want) {
+        compare(call.told(), call.on(scene.get()), want);
+        alike("what is seen after " + call.told(), () -> {
+            NodeStage stage = scene.get();
+            call.on(stage);
+            return stage;
+        }, scene);
     }
 
     private void compare(String call, String got, String want) {
         asked++;
         if (!got.equals(want)) {
             wrong++;
-            System.out.println(call + " answered " + got + ", due is " + want);
+            System.out.println((sentence.isEmpty() ? "" : "[" + sentence + "] ") + call + " answered " + got + ", due is " + want);
         }
     }
 }
