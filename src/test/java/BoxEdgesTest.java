@@ -175,7 +175,8 @@ public final class BoxEdgesTest {
         // Of the two in one place, 2 stands behind 1.
         int[][] layersAndHit = {{Integer.MIN_VALUE, Integer.MIN_VALUE, 2}, {Integer.MIN_VALUE + 1, Integer.MIN_VALUE, 1},
             {Integer.MAX_VALUE, Integer.MAX_VALUE, 2}, {Integer.MAX_VALUE, Integer.MAX_VALUE - 1, 1},
-            {Integer.MAX_VALUE, Integer.MIN_VALUE, 1}, {Integer.MIN_VALUE, Integer.MAX_VALUE, 2}, {0, -1, 1}, {-1, 0, 2}, {1, 0, 1}};
+            {Integer.MAX_VALUE, Integer.MIN_VALUE, 1}, {Integer.MIN_VALUE, Integer.MAX_VALUE, 2}, {0, -1, 1}, {-1, 0, 2},
+            {1, 0, 1}};
         for (int[] l : layersAndHit) {
             NodeStage x = new NodeStage();
             for (int k = 1; k <= 2; k++) {
@@ -226,6 +227,9 @@ public final class BoxEdgesTest {
         NodeStage x = Scene.chain(23);
         x.box(23, 3, 4, 1, 1);
         due.is("none above it has one", placesOf(x, 23), "3.0 4.0 1.0");
+        x.box(23, -0.0, -0.0, 1, 1);
+        due.is("origin 0 and -0.0 is 0.0", placesOf(x, 23), "0.0 0.0 1.0");
+        x.box(23, 3, 4, 1, 1);
         x.box(1, 10, 20, 1, 1);
         due.is("the farthest has one", placesOf(x, 23), "13.0 24.0 1.0");
         x.box(22, 100, 200, 1, 1);

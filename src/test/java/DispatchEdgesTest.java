@@ -446,22 +446,10 @@ public final class DispatchEdgesTest {
         due.is("the fourth one five times", y.look(2), 8);
     }
 
-    /**
-     * Dispatching type 1 at the check 1 calls listener 0, that sends five events to the listeners 1 to 23, and
-     * then so many more, with once, the last of which throws: 116 and these.
-     */
+    /** Dispatching type 1 at the check 1 makes 116 calls and so many more, with once, the last of which throws. */
     private static NodeStage crowd(int behind) {
-        NodeStage x = new NodeStage();
-        x.make(2, 0);
-        x.insert(0, 1, -1);
-        for (int k = 0; k < 5; k++) {
-            x.command(0, 5, 2);
-        }
+        NodeStage x = Scene.crowd(2, 1, 2);
         x.command(7, 6, 0);
-        x.listen(1, 1, 0, 0);
-        for (int k = 0; k < 23; k++) {
-            x.listen(k < 12 ? 1 : 0, 2, k % 2, 1 + k / 2 % 6);
-        }
         for (int k = 1; k <= behind; k++) {
             x.listen(1, 1, ONCE, k == behind ? 7 : k);
         }

@@ -1,4 +1,4 @@
-/** Promises 10, 18 and 19: the paths of events, what listeners do on their way, and what is kept of it. */
+/** Promises 10 and 19: the paths of events, what listeners do on their way, and what is kept of it. */
 public final class DispatchTest {
     private static final Due due = new Due();
     private static final int BUBBLES = 1;
@@ -46,6 +46,8 @@ public final class DispatchTest {
     }
 
     private static void courses() {
+        due.about("Terms, DISPATCHING: from the last entry to the first the listeners with capture, "
+                + "from the first to the last those without");
         NodeStage x = chain(0);
         Heard.everywhere(x, 1, 0);
         Heard.everywhere(x, 1, CAPTURE);
@@ -78,6 +80,7 @@ public final class DispatchTest {
     }
 
     private static void pathThroughSlot() {
+        due.about("Terms, PATH: the next node of an element is its assigned slot, if it has one, else its parent");
         NodeStage x = slotted();
         String whole = "5@5>5/2 4@4>5/3 3@3>5/3 2@2>5/3 1@1>5/3 0@0>5/3";
         due.is("through the slot", Heard.of(x, 5, 1, BUBBLES), whole);
@@ -88,6 +91,8 @@ public final class DispatchTest {
     }
 
     private static void pathOutOfShadow() {
+        due.about("Terms, PATH: an entry without a target, if the root of what was the last target is N "
+                + "or above or hosting N; else with target N");
         NodeStage x = slotted();
         due.is("not composed", Heard.of(x, 3, 1, BUBBLES), "3@3>3/2 2@2>3/3");
         due.is("composed", Heard.of(x, 3, 1, BUBBLES | COMPOSED), "3@3>3/2 2@2>3/3 1@1>1/2 0@0>1/3");
@@ -98,6 +103,7 @@ public final class DispatchTest {
     }
 
     private static void pathThroughSlotOfSlot() {
+        due.about("Terms, PATH: the next node of a slot is its assigned slot, too");
         // In the shadow 2 of 1 stands the host 3 with the slot 5 as its child; 3's shadow 4 has the slot 6.
         NodeStage x = new NodeStage();
         x.make(0, 0);
@@ -121,12 +127,14 @@ public final class DispatchTest {
     }
 
     private static void pathFromShadowItself() {
+        due.about("Terms, PATH: first T, with target T, also if T is a shadow");
         NodeStage x = slotted();
         due.is("not composed", Heard.of(x, 2, 1, BUBBLES), "2@2>2/2");
         due.is("composed", Heard.of(x, 2, 1, BUBBLES | COMPOSED), "2@2>2/2 1@1>1/2 0@0>1/3");
     }
 
     private static void pathOfLooseTree() {
+        due.about("Terms, PATH: as long as there is a next node N, outside of the document, too");
         NodeStage x = slotted();
         x.remove(1);
         due.is("its top is the last one", Heard.of(x, 5, 1, BUBBLES | COMPOSED),
@@ -135,6 +143,7 @@ public final class DispatchTest {
     }
 
     private static void pathStaysAsItWas() {
+        due.about("Terms, PATH: the path does not change any more then");
         NodeStage x = slotted();
         x.command(1, 7, 5);
         x.command(1, 7, 1);
@@ -146,6 +155,7 @@ public final class DispatchTest {
     }
 
     private static void stop() {
+        due.about("Terms, STOP: the event's propagation is stopped; a stop ends the courses behind the present node");
         NodeStage x = chain(0);
         x.command(1, 0, 0);
         Heard.everywhere(x, 1, 0);
@@ -160,6 +170,7 @@ public final class DispatchTest {
     }
 
     private static void stopAtTargetInFirstCourse() {
+        due.about("Terms, STOP: in the first course at the target");
         NodeStage x = chain(0);
         x.command(1, 0, 0);
         x.listen(2, 1, CAPTURE, 1);
@@ -169,6 +180,7 @@ public final class DispatchTest {
     }
 
     private static void stopAtOnce() {
+        due.about("Terms, STOP AT ONCE: also no listener of this node is called any more");
         NodeStage x = chain(0);
         x.command(1, 1, 0);
         x.command(1, 2, 0);
@@ -183,6 +195,7 @@ public final class DispatchTest {
     }
 
     private static void prevent() {
+        due.about("Terms, PREVENT: it is prevented, and goes on");
         NodeStage x = chain(0);
         x.command(1, 2, 0);
         x.listen(0, 1, 0, 1);
@@ -197,6 +210,7 @@ public final class DispatchTest {
     }
 
     private static void removeCommand() {
+        due.about("Terms, CALLED: those that are not removed when theirs comes");
         NodeStage x = chain(0);
         x.command(1, 3, 2);
         x.command(1, 3, 0);
@@ -213,6 +227,7 @@ public final class DispatchTest {
     }
 
     private static void again() {
+        due.about("Terms, AGAIN: a listener like listener n is added (its node, type, options and script)");
         NodeStage x = chain(0);
         x.listen(2, 3, CAPTURE | PASSIVE, 2);
         x.command(1, 4, 0);
@@ -241,6 +256,7 @@ public final class DispatchTest {
     }
 
     private static void addedDuringTurn() {
+        due.about("Terms, CALLED: those that are there when the entry's turn begins");
         // Listener 0 adds one for this turn's node, one for the next course and one for the next entry.
         NodeStage x = chain(0);
         x.listen(2, 1, CAPTURE, 2);
@@ -256,6 +272,7 @@ public final class DispatchTest {
     }
 
     private static void sendCommand() {
+        due.about("Terms, SEND: an event of type n, with bubbles, that can be prevented, is dispatched at the current node");
         NodeStage x = chain(0);
         x.command(1, 5, 6);
         x.command(1, 5, 8);
@@ -280,6 +297,7 @@ public final class DispatchTest {
     }
 
     private static void sendStaysInShadow() {
+        due.about("Terms, SEND: not composed");
         NodeStage x = slotted();
         x.command(1, 5, 2);
         x.listen(3, 3, 0, 1);
@@ -288,6 +306,7 @@ public final class DispatchTest {
     }
 
     private static void throwCommand() {
+        due.about("Terms, THROW: the script ends, nothing else does");
         NodeStage x = chain(0);
         x.command(1, 6, 0);
         x.command(1, 2, 0);
@@ -302,6 +321,7 @@ public final class DispatchTest {
     }
 
     private static void takeOut() {
+        due.about("Terms, TAKE OUT node n from its parent");
         NodeStage x = chain(0);
         x.command(1, 7, 2);
         x.command(1, 7, 2);
@@ -317,6 +337,7 @@ public final class DispatchTest {
     }
 
     private static void move() {
+        due.about("Terms, MOVE: element n is inserted into the current node at the end");
         NodeStage x = slotted();
         x.make(0, 0);
         x.insert(5, 6, -1);
@@ -343,6 +364,7 @@ public final class DispatchTest {
     }
 
     private static void once() {
+        due.about("Terms, CALLED: one with once is removed, the call is written down, and its script is done");
         NodeStage x = chain(0);
         x.command(1, 5, 1);
         x.listen(2, 1, ONCE, 1);
@@ -355,6 +377,7 @@ public final class DispatchTest {
     }
 
     private static void markTurnedBack() {
+        due.about("Terms, DISPATCHING: at last the mark that was turned is turned back, if the event was prevented");
         NodeStage x = chain(2);
         x.command(1, 2, 0);
         x.listen(0, 0, 0, 1);
@@ -372,6 +395,7 @@ public final class DispatchTest {
     }
 
     private static void marksOfSentEvents() {
+        due.about("Terms, DISPATCHING: the mark that was turned is turned back, of events within events");
         NodeStage x = chain(2);
         x.command(1, 5, 0);
         x.listen(2, 1, 0, 1);
@@ -398,6 +422,7 @@ public final class DispatchTest {
     }
 
     private static void looks() {
+        due.about("Promise 19: nodes, listeners, calls ever, ERRORS, OVER and PRESSED");
         NodeStage x = chain(0);
         x.attach(1);
         x.command(1, 6, 0);

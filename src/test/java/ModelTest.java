@@ -21,6 +21,7 @@ public final class ModelTest {
     }
 
     public static void main(String[] args) {
+        Watch.begin();
         long calls = 0;
         int wrong = 0;
         for (int seed = 0; seed < RUNS && wrong < 5; seed++) {

@@ -224,17 +224,10 @@ public final class PointerEdgesTest {
         }
     }
 
-    /** Type 3 at 1 makes 116 calls, as 1 sends five events of type 7 to 23 listeners; then 4 has so many, 5 one with once. */
+    /** Type 3 at 1 makes 116 calls; then so many hear type 4, and one, with once, type 5. */
     private static NodeStage crowd(int ofType4) {
-        NodeStage x = Scene.chain(1);
+        NodeStage x = Scene.crowd(0, 3, 7);
         x.box(1, 0, 0, 10, 10);
-        for (int k = 0; k < 5; k++) {
-            x.command(0, 5, 7);
-        }
-        x.listen(1, 3, 0, 0);
-        for (int k = 0; k < 23; k++) {
-            x.listen(k < 12 ? 1 : 0, 7, k % 2, 1 + k / 2 % 6);
-        }
         for (int k = 1; k <= ofType4; k++) {
             x.listen(1, 4, 0, k);
         }

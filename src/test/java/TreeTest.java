@@ -9,6 +9,7 @@ public final class TreeTest {
         insertMovesWithinParent();
         insertIntoEveryKind();
         remove();
+        removedForGood();
         assignedSlots();
         children();
         due.end();
@@ -117,6 +118,24 @@ public final class TreeTest {
         due.is("children of the refilled one", childrenOf(x, 1), "3 4");
         due.is("remove(1) with what is below", x.remove(1), true);
         due.is("root of what is below", x.node(3, 7), 1);
+    }
+
+    private static void removedForGood() {
+        // What was taken out and is put elsewhere later leaves its old neighbours as they are then.
+        NodeStage x = stageOf(0, 0, 0, 0, 0, 0);
+        for (int k = 3; k <= 5; k++) {
+            x.insert(1, k, -1);
+        }
+        x.remove(4);
+        x.insert(2, 4, -1);
+        due.is("its neighbours", childrenOf(x, 1), "3 5");
+        x.insert(1, 6, 5);
+        due.is("another one between them", childrenOf(x, 1), "3 6 5");
+        x.remove(6);
+        x.remove(5);
+        x.insert(2, 6, 4);
+        due.is("one of them, the other one is out, too", childrenOf(x, 1), "3");
+        due.is("children elsewhere", childrenOf(x, 2), "6 4");
     }
 
     private static void assignedSlots() {

@@ -9,6 +9,10 @@ final class Due {
     private int asked;
     private int wrong;
 
+    Due() {
+        Watch.begin();
+    }
+
     /** The sentence of the document that the answers from here on are about. */
     void about(String sentence) {
         this.sentence = sentence;
@@ -73,14 +77,18 @@ final class Due {
 
     void end() {
         String told = sentences.isEmpty() ? "" : ", on " + sentences.size() + " sentences of the document";
-        System.out.println((wrong == 0 ? asked + " answers are as due" : wrong + " of " + asked + " answers are not as due") + told);
+        String counted = wrong == 0 ? asked + " answers are as due" : wrong + " of " + asked + " answers are not as due";
+        System.out.println(counted + told);
         if (wrong != 0 || asked == 0) {
             System.exit(1);
         }
     }
 
     private void unchanged(Supplier<NodeStage> scene, Call call, String want) {
-        compare(call.told(), call.on(scene.get()), want);
+        if (!compare(call.told(), call.on(scene.get()), want)) {
+            // What it has changed may be out of all order, with no end to looking at it.
+            return;
+        }
         alike("what is seen after " + call.told(), () -> {
             NodeStage stage = scene.get();
             call.on(stage);
@@ -88,11 +96,14 @@ final class Due {
         }, scene);
     }
 
-    private void compare(String call, String got, String want) {
+    private boolean compare(String call, String got, String want) {
         asked++;
-        if (!got.equals(want)) {
+        boolean isDue = got.equals(want);
+        if (!isDue) {
             wrong++;
-            System.out.println((sentence.isEmpty() ? "" : "[" + sentence + "] ") + call + " answered " + got + ", due is " + want);
+            String of = sentence.isEmpty() ? "" : "[" + sentence + "] ";
+            System.out.println(of + call + " answered " + got + ", due is " + want);
         }
+        return isDue;
     }
 }

@@ -95,6 +95,25 @@ final class Scene {
         return x;
     }
 
+    /**
+     * The element 1 of that kind in the document, in which an event of the type heard makes 116 calls:
+     * of listener 0 at 1, that sends five events of the other type, each to the listeners 1 to 23. The
+     * scripts 1 to 7 are empty.
+     */
+    static NodeStage crowd(int kind, int heard, int sent) {
+        NodeStage x = new NodeStage();
+        x.make(kind, 0);
+        x.insert(0, 1, -1);
+        for (int k = 0; k < 5; k++) {
+            x.command(0, 5, sent);
+        }
+        x.listen(1, heard, 0, 0);
+        for (int k = 0; k < 23; k++) {
+            x.listen(k < 12 ? 1 : 0, sent, k % 2, 1 + k / 2 % 6);
+        }
+        return x;
+    }
+
     /** 0 holds the host 1 with the shadow 2, that holds the host 3 with the shadow 4 and so on; 22 holds 23. */
     static NodeStage nestedHosts() {
         NodeStage x = new NodeStage();
