@@ -60,6 +60,13 @@ public final class BoxEdgesTest {
         due.thrown(Scene::fullOfNodes, IllegalArgumentException.class, "box", 24, 1, 1, 1, 1);
     }
 
+    /** Such a box throws, and changes nothing of an element that has a box, nor of one that has none. */
+    private static void notTaken(double x, double y, double width, double height) {
+        for (int element : new int[] {6, 5}) {
+            due.thrown(Scene::busy, IllegalArgumentException.class, "box", element, x, y, width, height);
+        }
+    }
+
     private static void farthestX() {
         due.about("Promise 11: IllegalArgumentException: x is not -1000 .. 1000");
         for (double taken : new double[] {-1000, Math.nextUp(-1000.0), -Double.MIN_VALUE, Math.nextDown(1000.0), 1000}) {
@@ -68,7 +75,7 @@ public final class BoxEdgesTest {
             due.is("left", x.place(6, 0), taken);
         }
         for (double far : TOO_FAR) {
-            due.thrown(Scene::busy, IllegalArgumentException.class, "box", 6, far, 1, 1, 1);
+            notTaken(far, 1, 1, 1);
         }
     }
 
@@ -80,7 +87,7 @@ public final class BoxEdgesTest {
             due.is("top", x.place(6, 1), taken);
         }
         for (double far : TOO_FAR) {
-            due.thrown(Scene::busy, IllegalArgumentException.class, "box", 6, 1, far, 1, 1);
+            notTaken(1, far, 1, 1);
         }
     }
 
@@ -93,7 +100,7 @@ public final class BoxEdgesTest {
             due.is("at " + taken, x.hit(taken, 0), -1);
         }
         for (double far : TOO_FAR) {
-            due.thrown(Scene::busy, IllegalArgumentException.class, "box", 6, 1, 1, far, 1);
+            notTaken(1, 1, far, 1);
         }
     }
 
@@ -101,7 +108,7 @@ public final class BoxEdgesTest {
         due.about("Promise 11: IllegalArgumentException: width is not above 0");
         due.taken(Scene::busy, "nothing", "box", 6, 1, 1, Double.MIN_VALUE, 1);
         for (double low : NOT_ABOVE_0) {
-            due.thrown(Scene::busy, IllegalArgumentException.class, "box", 6, 1, 1, low, 1);
+            notTaken(1, 1, low, 1);
         }
     }
 
@@ -114,7 +121,7 @@ public final class BoxEdgesTest {
             due.is("at " + taken, x.hit(0, taken), -1);
         }
         for (double far : TOO_FAR) {
-            due.thrown(Scene::busy, IllegalArgumentException.class, "box", 6, 1, 1, 1, far);
+            notTaken(1, 1, 1, far);
         }
     }
 
@@ -122,7 +129,7 @@ public final class BoxEdgesTest {
         due.about("Promise 11: IllegalArgumentException: height is not above 0");
         due.taken(Scene::busy, "nothing", "box", 6, 1, 1, 1, Double.MIN_VALUE);
         for (double low : NOT_ABOVE_0) {
-            due.thrown(Scene::busy, IllegalArgumentException.class, "box", 6, 1, 1, 1, low);
+            notTaken(1, 1, 1, low);
         }
     }
 
